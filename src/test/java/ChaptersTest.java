@@ -167,6 +167,7 @@ public final class ChaptersTest {
         CHECK.due("keep 2: fit(1)", x.fit(1), 3);
         x.rule(2, 0);
         CHECK.due("keep 0: fit(1)", x.fit(1), 2);
+        CHECK.due("keep 0: fit(99)", x.fit(99), 2);
         HeadMarks none = new HeadMarks();
         CHECK.due("no lines: fit(0)", none.fit(0), 2);
         none.rule(2, 2);

@@ -108,6 +108,11 @@ public final class ImagesTest {
         x.cut(6, 0);
         // 1 "..A.", 2 "B.C..", 3 "a"
         counts(x, new int[] {10, 3, 0, 0, 3, 1, 2, 3, 1});
+        x.cut(8, 1);
+        x.cut(3, 1);
+        // 1 "..A", 2 ".B.C.", 3 ".a"
+        counts(x, new int[] {10, 3, 0, 2, 3, 1, 2, 3, 1});
+        CHECK.due("the last page counts, too", Check.reading(".../AB").count(5), 1);
         for (int r = 0; r < 9; r++) {
             CHECK.due("count of rule " + r, x.count(10 + r), new int[] {5, 0, 1, 1, 0, 0, 1, 1, 2}[r]);
         }

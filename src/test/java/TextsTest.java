@@ -115,6 +115,12 @@ public final class TextsTest {
         Check.sayAll(x, "...");
         CHECK.due("read, a longer text", x.read(), 3);
         CHECK.due("read, old breaks are gone", x.count(3), 0);
+        Check.sayAll(x, "../.");
+        CHECK.due("read, a break", x.read(), 3);
+        Check.sayAll(x, "..");
+        CHECK.due("read, a shorter text", x.read(), 2);
+        CHECK.due("read, a break behind its end is gone", x.count(3), 0);
+        CHECK.due("read, a line behind its end is gone", x.line(2, 3), HeadMarks.UNKNOWN);
         CHECK.due("read, no signs", x.read(), 0);
         CHECK.due("read, no lines", x.count(0), 0);
         CHECK.due("read, no pages", x.count(1), 0);
@@ -154,6 +160,7 @@ public final class TextsTest {
         CHECK.due("high 2 at keep 2", x.rule(0, 2), HeadMarks.OUTSIDE);
         CHECK.due("high stays", x.count(10), 3);
         CHECK.due("keep 0", x.rule(2, 0), 2);
+        CHECK.due("high 1 at keep 0", x.rule(0, 1), HeadMarks.OUTSIDE);
         CHECK.due("high 2 at keep 0", x.rule(0, 2), 3);
     }
 
