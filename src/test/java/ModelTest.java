@@ -69,12 +69,12 @@ public final class ModelTest {
             case "say": return random.nextInt(3) == 0 ? 30 + random.nextInt(100) : "./Aa".charAt(random.nextInt(4));
             case "headed": return (random.nextBoolean() ? '@' : '`') + random.nextInt(10);
             case "rule": return random.nextInt(10);
-            case "chapter": return random.nextInt(12) - 1;
-            case "fit": return random.nextInt(30) - 1;
+            case "chapter": return random.nextInt(random.nextInt(4) == 0 ? 62 : 12) - 1;
+            case "fit": return random.nextInt(random.nextInt(4) == 0 ? 102 : 30) - 1;
             case "image", "restore", "worst": return random.nextInt(4) - 1;
             case "count": return random.nextInt(21) - 1;
-            case "page", "mark": return random.nextInt(20);
-            default: return random.nextInt(50) - 1;
+            case "page", "mark": return random.nextInt(random.nextInt(4) == 0 ? 121 : 20);
+            default: return random.nextInt(62) - 1;
         }
     }
 
