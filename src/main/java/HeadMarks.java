@@ -411,6 +411,9 @@ public final class HeadMarks {
         }
 
         private void addPage(int ahead) {
+            if (pages >= MOST_PAGES) {
+                return;
+            }
             pages++;
             linesAhead[pages] = ahead;
             linesOn[pages] = 0;

@@ -71,8 +71,10 @@ public final class ImageEdgesTest {
                 x.cut(line, 1);
             }
             x.image(k);
+            // Each line is another one, so that none is as it was but by restore.
+            Check.sayAll(x, "h".repeat(60));
             x.read();
-            CHECK.due("restore(" + k + "), no lines now", x.restore(k), 1);
+            CHECK.due("restore(" + k + ")", x.restore(k), 1);
             CHECK.same("titles", Check.linesOf(x, 0), lines.replace('.', '-'));
             CHECK.same("breaks", Check.linesOf(x, 3), "0" + "1".repeat(59));
             CHECK.due("pages", x.count(1), 60);
