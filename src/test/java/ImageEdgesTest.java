@@ -1,3 +1,5 @@
+import java.util.function.Consumer;
+
 /** The boundary cases of the promises 16 to 18, and of what "Terms" says of all calls. */
 public final class ImageEdgesTest {
     private static final Check CHECK = new Check();
@@ -39,27 +41,36 @@ public final class ImageEdgesTest {
     private static void imageKeepsAll() {
         CHECK.sentence("promise 16: All .. is kept; promise 17: All .. is as it was when it was kept");
         for (int k = 0; k <= 1; k++) {
-            HeadMarks x = Check.reading("Aa/.B.b", 0, 3, 1, 2, 2, 2, 3, 0, 4, 1, 5, 1, 6, 0, 7, 2, 8, 0);
-            x.cut(4, 1);
-            CHECK.due("image(" + k + ")", x.image(k), 1);
-            String kept = all(x);
-            int[] others = {9, 0, 1, 1, 0, 0, 1, 1, 2};
-            for (int r = 0; r < 9; r++) {
-                x.rule(r, others[r]);
-            }
-            x.cut(2, 0);
-            CHECK.holds("breaks and rules are others", !all(x).equals(kept));
-            CHECK.due("restore(" + k + ")", x.restore(k), 1);
-            CHECK.same("all", all(x), kept);
-            Check.sayAll(x, "C/".repeat(20) + "c");
-            x.read();
-            CHECK.due("the text is another", x.count(0), 21);
-            CHECK.due("restore(" + k + "), a shorter text", x.restore(k), 1);
-            CHECK.same("all", all(x), kept);
-            x.read();
-            CHECK.due("restore(" + k + "), a longer text", x.restore(k), 1);
-            CHECK.same("all", all(x), kept);
+            restoredBehind(k, "other rules", ImageEdgesTest::otherRules);
+            restoredBehind(k, "a break that went", x -> x.cut(2, 0));
+            restoredBehind(k, "a break that came", x -> x.cut(1, 1));
+            restoredBehind(k, "a longer text", x -> readAnother(x, "C/".repeat(9) + "c"));
+            restoredBehind(k, "a shorter text", x -> readAnother(x, "./c"));
+            restoredBehind(k, "no text", HeadMarks::read);
         }
+    }
+
+    private static void restoredBehind(int k, String name, Consumer<HeadMarks> change) {
+        HeadMarks x = Check.reading("Aa/.B.b", 0, 3, 1, 2, 2, 2, 3, 0, 4, 1, 5, 1, 6, 0, 7, 2, 8, 0);
+        x.cut(4, 1);
+        CHECK.due("image(" + k + ")", x.image(k), 1);
+        String kept = all(x);
+        change.accept(x);
+        CHECK.holds(name + " is seen", !all(x).equals(kept));
+        CHECK.due("restore(" + k + ") behind " + name, x.restore(k), 1);
+        CHECK.same("all behind " + name, all(x), kept);
+    }
+
+    private static void otherRules(HeadMarks x) {
+        int[] others = {9, 0, 1, 1, 0, 0, 1, 1, 2};
+        for (int r = 0; r < 9; r++) {
+            x.rule(r, others[r]);
+        }
+    }
+
+    private static void readAnother(HeadMarks x, String text) {
+        Check.sayAll(x, text);
+        x.read();
     }
 
     private static void imageOfTheLongestText() {
