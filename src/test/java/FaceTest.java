@@ -6,7 +6,9 @@ import java.lang.reflect.Method;
 import java.lang.reflect.Modifier;
 import java.nio.file.Files;
 import java.nio.file.Path;
+import java.util.ArrayList;
 import java.util.Arrays;
+import java.util.List;
 import java.util.Map;
 import java.util.Set;
 import java.util.TreeMap;
@@ -24,6 +26,7 @@ public final class FaceTest {
         methods();
         nothingElseIsSeen();
         nestedClasses();
+        sizes();
         words(Files.readString(SOURCE));
         CHECK.end();
     }
@@ -76,8 +79,6 @@ public final class FaceTest {
             if (Modifier.isPublic(f.getModifiers())) {
                 constants.add(f.getName());
             }
-            CHECK.holds(f + ": static ones are final",
-                !Modifier.isStatic(f.getModifiers()) || Modifier.isFinal(f.getModifiers()));
         }
         CHECK.holds("the constants are those of the document",
             constants.equals(Set.of("UNKNOWN", "OUTSIDE", "STATE", "FULL", "NONE", "FAULT")));
@@ -101,6 +102,25 @@ public final class FaceTest {
             CHECK.holds(c + " is not public", !Modifier.isPublic(c.getModifiers()));
             for (Method m : c.getDeclaredMethods()) {
                 CHECK.holds(m + " bears a name of its own", !face().containsKey(m.getName()));
+            }
+        }
+    }
+
+    /** Rule 11 of LANGUAGE.md, and of rule 5 what is true of all classes of the file. */
+    private static void sizes() {
+        List<Class<?>> classes = new ArrayList<>(List.of(HeadMarks.class.getDeclaredClasses()));
+        classes.add(HeadMarks.class);
+        CHECK.holds("classes: " + classes.size(), classes.size() <= 12);
+        for (Class<?> c : classes) {
+            int fields = 0;
+            for (Field f : c.getDeclaredFields()) {
+                boolean ofAll = Modifier.isStatic(f.getModifiers());
+                CHECK.holds(f + ": static ones are final", !ofAll || Modifier.isFinal(f.getModifiers()));
+                fields += ofAll ? 0 : 1;
+            }
+            CHECK.holds(c + " has fields: " + fields, fields <= 20);
+            for (Method m : c.getDeclaredMethods()) {
+                CHECK.holds(m + " has parameters: " + m.getParameterCount(), m.getParameterCount() <= 7);
             }
         }
     }
